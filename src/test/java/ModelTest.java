@@ -132,7 +132,7 @@ public final class ModelTest {
         for (int i = from(1, 6); i > 0; i--) {
             addCaravan(road, plain);
         }
-        for (int i = from(1, 9); i > 0; i--) {
+        for (int i = from(1, below(2) == 0 ? 9 : 2); i > 0; i--) {
             int owner = below(plain.caravans.size());
             road.bale(owner);
             plain.bale(owner);
@@ -157,7 +157,7 @@ public final class ModelTest {
 
     private void addFact(CaravanRoad road, PlainRoad plain) {
         boolean isShut = below(2) == 0;
-        int day = below(below(5) == 0 ? 60 : 12);
+        int day = below(below(5) == 0 ? 60 : 9);
         boolean whole = !isShut && below(3) != 0;
         int subject = isShut ? below(plain.inns.size() - 1) : below(plain.bales.size());
         PlainRoad.Fact fact = new PlainRoad.Fact(isShut, subject, day, whole);

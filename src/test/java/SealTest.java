@@ -62,6 +62,8 @@ public final class SealTest {
         could(withLooks(3, 'b', 3, 'w'), 0, 2 | 4 | 8);
         could(withLooks(1, 'w', 2, 'b', 2, 'w'), 0, 4);
         could(withLooks(1, 'w', 2, 'w', 2, 'b', 2, 'w'), 0, 4);
+        could(withLooks(2, 'b', 2, 'w', 2, 'b'), 0, 2 | 4);
+        could(withLooks(0, 'w', 3, 'b', 3, 'w', 3, 'b'), 0, 4 | 8);
         could(withLooks(0, 'w', 0, 'b'), 0, 2);
         could(withLooks(1, 'w', 1, 'b'), 0, 0);
     }
