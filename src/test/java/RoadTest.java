@@ -336,9 +336,8 @@ public final class RoadTest {
         road.caravan(1, 5, 2, 0, 1, 0);
         road.caravan(0, 5, 3, 0, 1, 0);
         road.caravan(0, 1, 1, 0, 1, 1);
-        int[] dues = {9, 0, 2, 2};
         road.shut(0, 1);
-        dueHouse(road, 0, 0, dues[0], dues[1], 2, 1);
+        dueHouse(road, 0, 0, 9, 0, 2, 1);
         dueHouse(road, 0, 1, 9, 0, 2, 2);
         dueHouse(road, 1, 1, 0, 0, 0, 0);
         dueHouse(road, 1, 2, 0, 0, 0, 4);
