@@ -27,7 +27,11 @@ public final class LanguageTest {
         due("public classes", count(code, "\\bpublic (final )?class\\b"), 1);
         due("classes that are not static", count(code, "private (?!static)[\\w ]*class\\b"), 0);
         yes("some twelve classes", count(code, "\\bclass\\b") <= 12);
+        due("names of the library but Math", count(code, "\\b(?!Math\\b)[A-Z][a-z]\\w*\\.\\w"), 0);
+        due("divisions", count(code, "[/%]"), 0);
+        due("loops without a bound", count(code, "while \\(true\\)|for \\([^;]*; *;"), 0);
         objectsAreMadeByConstructors(code);
+        methodsAreShort(code);
         names();
         CHECKS.end();
     }
@@ -42,6 +46,18 @@ public final class LanguageTest {
             inConstructors += count(m.group(2), "\\bnew ");
         }
         due("objects made elsewhere", count(code, "\\bnew ") - inFields - inConstructors, 0);
+    }
+
+    /** A method ends at the first line that closes it with its own indentation. */
+    private static void methodsAreShort(String code) {
+        Matcher m = Pattern.compile("\\n( +)(?:\\w+ )*[\\w\\[\\]]+ (\\w+)\\([^;{]*\\) \\{(.*?)\\n\\1\\}",
+                Pattern.DOTALL).matcher(code);
+        int methods = 0;
+        while (m.find()) {
+            methods++;
+            yes("lines of " + m.group(2), m.group(3).lines().count() <= 60);
+        }
+        yes("methods found: " + methods, methods > 80);
     }
 
     /** No method inside bears the name of a public one, and none takes more than seven arguments. */

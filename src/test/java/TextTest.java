@@ -273,17 +273,11 @@ public final class TextTest {
     }
 
     private static void good(String text, int rules) {
-        CaravanRoad road = new CaravanRoad();
-        due("read() of " + text, Checks.read(road, text), 0);
-        due("place() of " + text, road.place(), -1);
-        due("count(4) of " + text, road.count(4), rules);
+        CHECKS.good(text, rules);
     }
 
     private static void bad(String text, int fault, int place) {
-        CaravanRoad road = new CaravanRoad();
-        due("read() of " + text, Checks.read(road, text), fault);
-        due("place() of " + text, road.place(), place);
-        due("count(4) of " + text, road.count(4), 0);
+        CHECKS.bad(text, fault, place);
     }
 
     /** The FIRST of a caravan that is there from day 0 on. */
