@@ -132,6 +132,7 @@ public final class EdgeAnswerTest {
         }
     }
 
+    /** "-1000000: no such ones." */
     private static void housesOfNoSuchOnes() {
         CaravanRoad road = sample();
         wrong("house of inn", -1, 2, NO_SUCH, inn -> road.house(inn, 0, 0, 0));
@@ -165,6 +166,7 @@ public final class EdgeAnswerTest {
         }
     }
 
+    /** "-1000000: no such ones." */
     private static void roomsOfNoSuchOnes() {
         CaravanRoad road = sample();
         due("the room", road.full(1, 0, 3, 2), 4);
@@ -196,6 +198,7 @@ public final class EdgeAnswerTest {
         due("one inn ahead of it", road.state(1, 59, 0, 0), 1);
     }
 
+    /** "NONE: .. or no such ones." */
     private static void comesOfNoSuchOnes() {
         CaravanRoad road = sample();
         due("comes", road.comes(0, 2), 3);
@@ -254,6 +257,7 @@ public final class EdgeAnswerTest {
         due("on day 1", first.barred(0, 1, 0), 0);
     }
 
+    /** "NONE: .. or no such ones." */
     private static void barredOfNoSuchOnes() {
         CaravanRoad road = sample();
         Checks.read(road, "bar 1 if 1 == 1;");
@@ -318,6 +322,7 @@ public final class EdgeAnswerTest {
         due("nobody on the road", empty.crowded(0, 0, 0), -1);
     }
 
+    /** "NONE: none, no such ones." */
     private static void crowdedOfNoSuchOnes() {
         CaravanRoad road = sample();
         road.caravan(0, 1, 1, 0, 1, 59);

@@ -138,6 +138,7 @@ public final class EdgeTapeTest {
         }
     }
 
+    /** "The tape .. is read: 0": an empty one, too, is a text, of no RULES. */
     private static void anEmptyTapeIsReadAsNoRules() {
         CaravanRoad road = new CaravanRoad();
         due("read() of a new tape", road.read(), 0);

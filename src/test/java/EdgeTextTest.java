@@ -364,6 +364,7 @@ public final class EdgeTextTest {
         due("FIRST behind faulty texts", road.state(0, 0, 0, 6), 1 + 2 * (3 - 4 * (5 + 6)));
     }
 
+    /** "it is in place of the one ahead": texts of nearly all the TOKENS there may be. */
     private static void longTextsOneBehindAnother() {
         CaravanRoad road = small();
         for (int i = 1; i <= 4; i++) {

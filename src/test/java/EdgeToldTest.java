@@ -48,6 +48,7 @@ public final class EdgeToldTest {
         due("no room", road.state(0, 0, 0, 1), -1);
     }
 
+    /** What one object is told, another one does not know. */
     private static void objectsAreApart() {
         CaravanRoad one = sample();
         CaravanRoad other = new CaravanRoad();
