@@ -2,7 +2,9 @@ import java.io.IOException;
 import java.lang.reflect.Method;
 import java.nio.file.Files;
 import java.nio.file.Path;
+import java.util.HashMap;
 import java.util.HashSet;
+import java.util.Map;
 import java.util.Set;
 import java.util.regex.Matcher;
 import java.util.regex.Pattern;
@@ -14,6 +16,10 @@ public final class LanguageTest {
         "\\bsynchronized\\b", "\\bassert\\b", "->", "::", "\\bimport\\b", "\\bpackage\\b", "\\bprotected\\b",
         "Exact\\b", "\\bstatic \\{", "\\bvolatile\\b", "\\bSystem\\.(?!arraycopy)", "\\bObject\\b",
         "\\bhashCode\\b", "\\btoString\\b", "\\]\\[[^\\]]*\\]\\["};
+
+    // A method ends at the first line that closes it with its own indentation.
+    private static final Pattern METHOD = Pattern.compile(
+            "\\n( +)(?:\\w+ )*[\\w\\[\\]]+ (\\w+)\\([^;{]*\\) \\{(.*?)\\n\\1\\}", Pattern.DOTALL);
 
     public static void main(String[] args) throws IOException {
         String source = Files.readString(Path.of("src/main/java/CaravanRoad.java"));
@@ -32,6 +38,7 @@ public final class LanguageTest {
         due("loops without a bound", count(code, "while \\(true\\)|for \\([^;]*; *;"), 0);
         objectsAreMadeByConstructors(code);
         methodsAreShort(code);
+        callsAreNotDeep(code);
         names();
         CHECKS.end();
     }
@@ -48,16 +55,47 @@ public final class LanguageTest {
         due("objects made elsewhere", count(code, "\\bnew ") - inFields - inConstructors, 0);
     }
 
-    /** A method ends at the first line that closes it with its own indentation. */
     private static void methodsAreShort(String code) {
-        Matcher m = Pattern.compile("\\n( +)(?:\\w+ )*[\\w\\[\\]]+ (\\w+)\\([^;{]*\\) \\{(.*?)\\n\\1\\}",
-                Pattern.DOTALL).matcher(code);
+        Matcher m = METHOD.matcher(code);
         int methods = 0;
         while (m.find()) {
             methods++;
             yes("lines of " + m.group(2), m.group(3).lines().count() <= 60);
         }
         yes("methods found: " + methods, methods > 80);
+    }
+
+    /**
+     * Calls that are no recursion go at most eight deep, the library's among them. Methods of one
+     * name are taken for one, so what is found is at least as deep as what can be.
+     */
+    private static void callsAreNotDeep(String code) {
+        Map<String, Set<String>> calls = new HashMap<>();
+        Matcher m = METHOD.matcher(code);
+        while (m.find()) {
+            Set<String> called = calls.computeIfAbsent(m.group(2), name -> new HashSet<>());
+            Matcher call = Pattern.compile("\\b([a-z]\\w*)\\(").matcher(m.group(3));
+            while (call.find()) {
+                called.add(call.group(1));
+            }
+            called.remove(m.group(2));
+        }
+        for (String name : calls.keySet()) {
+            int deep = depth(name, calls, 0);
+            yes("calls from " + name + " go " + deep + " deep", deep <= 8);
+        }
+        yes("calls are found", depth("state", calls, 0) > 5);
+    }
+
+    /** Stops at thirty, so that a ring of calls is found as one that is too deep. */
+    private static int depth(String name, Map<String, Set<String>> calls, int above) {
+        int deepest = 0;
+        if (above < 30) {
+            for (String called : calls.getOrDefault(name, Set.of())) {
+                deepest = Math.max(deepest, depth(called, calls, above + 1));
+            }
+        }
+        return deepest + 1;
     }
 
     /** No method inside bears the name of a public one, and none takes more than seven arguments. */
